@@ -646,7 +646,11 @@ public final class PromiseTest {
         x.skip(1, 1);
         due("24 skipped", x.done(1, 4, 0), 3);
         due("24 skipped", x.done(1, 4, 1), 4);
+        x.reader(0, 2, 2);
+        due("24 lowest terms", x.done(1, 4, 0), 1);
+        due("24 lowest terms", x.done(1, 4, 1), 2);
         x.skip(0, 1);
+        due("24 nothing of earlier calls", x.done(1, 4, 0), 1);
         due("24 nothing to read", x.done(1, 0, 0), 1);
         due("24 latest", x.done(1, 9999, 0), 1);
         due("24 minute", x.done(1, 10000, 0), BAD_LONG);
@@ -700,6 +704,10 @@ public final class PromiseTest {
         typeAll(x, "p03");
         due("25 above", x.mean(1, 0), 5);
         due("25 below", x.mean(1, 1), 4);
+        x.reader(0, 2, 2);
+        due("25 lowest terms", x.mean(1, 0), 3);
+        due("25 lowest terms", x.mean(1, 1), 2);
+        x.reader(0, 2, 1);
         x.reader(1, 2, 1);
         due("25 two", x.mean(3, 0), 23);
         due("25 two", x.mean(3, 1), 16);
