@@ -746,10 +746,11 @@ public final class OneBook {
 
         /** The greatest TIME in a set; 0 of an empty one. */
         int together(int readers, int chapter) {
+            int kind = book.kindOf(chapter);
             int greatest = 0;
             for (int r = 0; r < READERS; r++) {
                 if (holds(readers, r)) {
-                    greatest = Math.max(greatest, minutes(r, chapter));
+                    greatest = Math.max(greatest, minutesAt(r, chapter, people[r].speedFor(kind)));
                 }
             }
             return greatest;
