@@ -372,7 +372,7 @@ public final class BookEdgeTest extends Edges {
                 OneBook x = new OneBook();
                 x.sheet(1, form, n);
                 for (int i = 0; i < n; i++) {
-                    x.lay(1, form, i, i < 3 ? 9 - i : 0);
+                    x.lay(1, form, i, i < 3 ? 9 - i : 5);
                 }
                 due("7 of " + n, x.read(1, 2), Math.min(n, 3));
                 for (int kind = 0; kind < 3; kind++) {

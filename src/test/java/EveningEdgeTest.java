@@ -13,6 +13,7 @@ public final class EveningEdgeTest extends Edges {
         waitedBounds();
         waitedOnlyOfTheSet();
         waitedLessOnesOwn();
+        waitedOfEach();
         waitedWhenNothingIsRead();
         workThatIsLeft();
         bestBounds();
@@ -23,6 +24,7 @@ public final class EveningEdgeTest extends Edges {
         bestIsMostLinesThenLeastWaited();
         bestIsTheLeastRow();
         bestOfEight();
+        bestOfAShorterBook();
         howBounds();
         gainBounds();
         gainOfNothing();
@@ -35,6 +37,7 @@ public final class EveningEdgeTest extends Edges {
         pairsBounds();
         pairsOfEachSet();
         pairsOfLikeWays();
+        pairsThatAllWait();
         pairsExtremes();
         end();
     }
@@ -214,6 +217,22 @@ public final class EveningEdgeTest extends Edges {
         due("14 longest", most.waited(3, 0, 1, 0), 5 * 187);
     }
 
+    /** Each of six, asked by turns: nothing of one EVENING is left in the next. */
+    private static void waitedOfEach() {
+        OneBook x = book("p60;v60");
+        int[] minutes = {10, 60, 30, 20, 15, 12};
+        for (int r = 0; r < 6; r++) {
+            paceAll(x, r, 60 / minutes[r]);
+        }
+        for (int again = 0; again < 3; again++) {
+            for (int r = 0; r < 6; r++) {
+                due("14 of six, " + r, x.waited(63, 0, r, 0), 2 * (60 - minutes[r]));
+                due("14 of six, from the last, " + r, x.waited(63, 1, r, 0), 60 - minutes[r]);
+                due("14 of two, " + r, x.waited(1 << r | 2, 1, 1, 0), 0);
+            }
+        }
+    }
+
     private static void waitedWhenNothingIsRead() {
         OneBook x = slowAndFast("p12;v12");
         x.reader(1, 0, 99);
@@ -381,6 +400,24 @@ public final class EveningEdgeTest extends Edges {
         dueRow("16 three by the candle", x, 0, 1, "00011111");
     }
 
+    /** Nothing is left of a plan for a longer BOOK. */
+    private static void bestOfAShorterBook() {
+        OneBook x = book(chapters("p99", 8));
+        x.best(0, 1, 0);
+        x.wipe();
+        typeAll(x, "p12;v12;d12");
+        paceAll(x, 0, 1);
+        paceAll(x, 1, 2);
+        x.set(0, 12);
+        x.set(1, 12);
+        dueBest("15 of a shorter one", x, 0, 1, 24, 6, 12);
+        dueRow("16 of a shorter one", x, 0, 1, "012");
+        x.wipe();
+        dueBest("15 of none", x, 0, 1, 0, 0, 0);
+        typeAll(x, "p12");
+        dueRow("16 of one", x, 0, 1, "1");
+    }
+
     // ---- 16
 
     /** "BAD: likewise." */
@@ -499,6 +536,7 @@ public final class EveningEdgeTest extends Edges {
         due("18 one far slower", x.rests(0, 1, NONE), 4);
         for (int i = 0; i < 4; i++) {
             due("18 the other one as slow as may be, " + i, x.rests(0, 1, i), 4 * i + 3);
+            due("18 likewise, named the other way, " + i, x.rests(1, 0, i), 12 + i);
         }
     }
 
@@ -577,6 +615,23 @@ public final class EveningEdgeTest extends Edges {
         due("19 all skipped", x.pairs(63, 5), 4);
         due("19 empty", new OneBook().pairs(63, NONE), 0);
         due("19 empty", new OneBook().pairs(63, 2), 3);
+    }
+
+    /** "the way by which all WAIT least": what each of three pairs waits, in all. */
+    private static void pairsThatAllWait() {
+        OneBook x = book("p60;v60");
+        int[] minutes = {60, 12, 20, 10, 30, 15};
+        int[] seats = {4, 3, 5, 1, 0, 2};
+        for (int r = 0; r < 6; r++) {
+            paceAll(x, r, 60 / minutes[r]);
+        }
+        due("19 three pairs that wait", x.pairs(63, NONE), 2 * (30 + 2 + 5));
+        for (int r = 0; r < 6; r++) {
+            due("19 seat of " + r, x.pairs(63, r), seats[r]);
+        }
+        due("19 two pairs that wait", x.pairs(0b010111, NONE), 2 * (30 + 8));
+        x.skip(0, 1);
+        due("19 one chapter skipped", x.pairs(63, NONE), 30 + 2 + 5);
     }
 
     private static void pairsExtremes() {

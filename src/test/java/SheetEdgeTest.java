@@ -1,5 +1,6 @@
 import java.math.BigInteger;
 import java.util.Arrays;
+import java.util.Random;
 
 /** SHEETS, count and digest (promises 26 to 33) at their edges; above each test, the sentence that it holds. */
 public final class SheetEdgeTest extends Edges {
@@ -39,6 +40,7 @@ public final class SheetEdgeTest extends Edges {
         countOfWhatThereIs();
         countOfFindings();
         digestOfEachScene();
+        digestOfUnlikeReaders();
         digestWraps();
         digestChangesNothing();
         digestWithoutSheets();
@@ -552,6 +554,27 @@ public final class SheetEdgeTest extends Edges {
         for (Scene scene : Scene.values()) {
             OneBook x = scene.make();
             due("33 of " + scene, x.digest(), sumByCalls(x).longValue());
+        }
+    }
+
+    /** By fixed seeds, so that each number of the digest differs from those beside it in some object. */
+    private static void digestOfUnlikeReaders() {
+        for (int seed = 0; seed < 60; seed++) {
+            Random random = new Random(seed);
+            OneBook x = book("p10;v15;d12;p08;v07".substring(0, 3 + 4 * random.nextInt(5)));
+            for (int r = 0; r < 6; r++) {
+                for (int i = 0; i < 3; i++) {
+                    x.pace(r, i, 1 + random.nextInt(9));
+                    x.reader(r, i, random.nextInt(5));
+                }
+                x.reader(r, 1, random.nextInt(2));
+                x.like(r, random.nextInt(5), 1);
+                x.turn(r, 1 << r | 1 + random.nextInt(63), random.nextInt(15));
+            }
+            x.skip(random.nextInt(8), 1);
+            x.set(0, random.nextInt(60));
+            x.set(1, random.nextInt(60));
+            due("33 of seed " + seed, x.digest(), sumByCalls(x).longValue());
         }
     }
 

@@ -31,12 +31,14 @@ public final class TurnEdgeTest extends Edges {
         doneOfEachByItself();
         doneInLowestTerms();
         doneOfGreatest();
+        doneAfterAnother();
         meanBounds();
         meanOfFour();
         meanOfNothing();
         meanByQuarters();
         meanInLowestTerms();
         meanOfGreatest();
+        meanAfterAnother();
         end();
     }
 
@@ -395,6 +397,26 @@ public final class TurnEdgeTest extends Edges {
         dueDone("24 the last minute", x, 7, 9999, 1, 1);
     }
 
+    /** Nothing is left of the MOODS, the CHAPTERS or the minutes of an earlier call. */
+    private static void doneAfterAnother() {
+        OneBook x = greatest();
+        x.done(7, 9999, 0);
+        x.done(7, 2000, 0);
+        x.pace(1, 0, 2);
+        x.pace(2, 0, 3);
+        x.done(7, 2000, 0);
+        for (int r = 0; r < 3; r++) {
+            x.reader(r, 2, 0);
+        }
+        dueDone("24 without moods, one minute less", x, 7, 1583, 0, 1);
+        dueDone("24 without moods", x, 7, 1584, 1, 1);
+        dueDone("24 another alone", x, 4, 8 * 66, 1, 1);
+        skipAll(x);
+        for (int minute : new int[] {1584, 1583, 8 * 66, 1, 0}) {
+            dueDone("24 all skipped, by " + minute, x, 7, minute, 1, 1);
+        }
+    }
+
     private static OneBook greatest() {
         OneBook x = book(chapters("p99", 8));
         for (int r = 0; r < 3; r++) {
@@ -475,5 +497,19 @@ public final class TurnEdgeTest extends Edges {
             x.reader(r, 2, 4);
         }
         dueMean("25 always twice", x, 7, 3168, 1);
+    }
+
+    private static void meanAfterAnother() {
+        OneBook x = greatest();
+        x.pace(1, 0, 2);
+        x.pace(2, 0, 3);
+        x.mean(7, 0);
+        for (int r = 0; r < 3; r++) {
+            x.reader(r, 2, 0);
+        }
+        dueMean("25 without moods", x, 7, 1584, 1);
+        dueMean("25 another alone", x, 4, 8 * 66, 1);
+        x.wipe();
+        dueMean("25 of nothing", x, 7, 0, 1);
     }
 }
