@@ -1,12 +1,7 @@
 /** For each promise of the document: ordinary inputs, the edges that it names, and wrong inputs. */
-public final class PromiseTest {
-    private static final int LEAST_INT = Integer.MIN_VALUE;
-    private static final long BAD_LONG = Long.MIN_VALUE + 2;
-    private static final long FULL_LONG = Long.MIN_VALUE + 4;
-    private static final int[] FAR = {LEAST_INT, LEAST_INT + 1, -1000, -2, 1000, 1 << 30, Integer.MAX_VALUE};
+public final class PromiseTest extends Edges {
+    private static final int[] FAR = {LEAST, LEAST + 1, -1000, -2, 1000, 1 << 30, Integer.MAX_VALUE};
     private static final String EIGHT = "p01;v02;d03;p04;v05;d06;p07;v08";
-
-    private static int wrong = 0;
 
     public static void main(String[] args) {
         newObject();
@@ -43,35 +38,7 @@ public final class PromiseTest {
         count();
         digest();
         refusalsChangeNothing();
-        System.out.println(wrong == 0 ? "all promises hold" : wrong + " answers are wrong");
-        if (wrong != 0) {
-            System.exit(1);
-        }
-    }
-
-    private static void due(String what, long got, long want) {
-        if (got != want) {
-            wrong++;
-            System.out.println(what + " answered " + got + ", due is " + want);
-        }
-    }
-
-    private static OneBook book(String text) {
-        OneBook x = new OneBook();
-        typeAll(x, text);
-        return x;
-    }
-
-    private static void typeAll(OneBook x, String text) {
-        for (int i = 0; i < text.length(); i++) {
-            x.type(text.charAt(i));
-        }
-    }
-
-    private static void paceAll(OneBook x, int reader, int v) {
-        for (int kind = 0; kind < 3; kind++) {
-            x.pace(reader, kind, v);
-        }
+        end();
     }
 
     // 1
@@ -737,7 +704,7 @@ public final class PromiseTest {
         due("26 still lost", x.lose(0), -11);
         due("26 sixty", x.sheet(3, 2, 60), 60);
         x.lay(3, 2, 59, 7);
-        due("26 size", x.sheet(3, 2, LEAST_INT), -15);
+        due("26 size", x.sheet(3, 2, LEAST), -15);
         due("26 the row stays", x.get(3, 2, 59), 7);
         due("26 new", x.sheet(3, 1, 60), 60);
         due("26 zeros", x.get(3, 1, 59), 0);
@@ -773,9 +740,9 @@ public final class PromiseTest {
         due("28 index", x.lay(0, 1, 2, 0), -12);
         due("28 index", x.lay(0, 1, -1, 0), -12);
         due("28 index", x.lay(0, 1, Integer.MAX_VALUE, 0), -12);
-        due("28 index", x.lay(0, 1, LEAST_INT, 0), -12);
+        due("28 index", x.lay(0, 1, LEAST, 0), -12);
         due("28 finding", x.count(8), 2);
-        int[] laid = {127, 128, 200, 255, 256, -129, 32767, 32768, 65535, 0x12345678, LEAST_INT, -1};
+        int[] laid = {127, 128, 200, 255, 256, -129, 32767, 32768, 65535, 0x12345678, LEAST, -1};
         for (int form = 0; form < 3; form++) {
             x.sheet(0, form, 2);
             for (int v : laid) {
@@ -789,22 +756,22 @@ public final class PromiseTest {
     // 29
     private static void get() {
         OneBook x = new OneBook();
-        due("29 sheet", x.get(4, 0, 0), LEAST_INT);
-        due("29 sheet", x.get(-1, 0, 0), LEAST_INT);
-        due("29 form", x.get(0, 3, 0), LEAST_INT);
-        due("29 form", x.get(0, -1, 0), LEAST_INT);
+        due("29 sheet", x.get(4, 0, 0), LEAST);
+        due("29 sheet", x.get(-1, 0, 0), LEAST);
+        due("29 form", x.get(0, 3, 0), LEAST);
+        due("29 form", x.get(0, -1, 0), LEAST);
         due("29 no finding", x.count(8), 0);
-        due("29 null", x.get(0, 0, 0), LEAST_INT);
+        due("29 null", x.get(0, 0, 0), LEAST);
         due("29 finding", x.count(8), 1);
         x.sheet(0, 2, 3);
         x.lay(0, 2, 2, -77);
         due("29 item", x.get(0, 2, 2), -77);
-        due("29 cast before index", x.get(0, 1, 3), LEAST_INT);
+        due("29 cast before index", x.get(0, 1, 3), LEAST);
         due("29 finding", x.count(8), 3);
-        due("29 index", x.get(0, 2, 3), LEAST_INT);
+        due("29 index", x.get(0, 2, 3), LEAST);
         due("29 finding", x.count(8), 2);
         x.get(0, 1, 0);
-        due("29 index", x.get(0, 2, -1), LEAST_INT);
+        due("29 index", x.get(0, 2, -1), LEAST);
         due("29 finding", x.count(8), 2);
     }
 
@@ -829,7 +796,7 @@ public final class PromiseTest {
         due("30 too many in s", x.copy(0, 3, 1, 0, 3), -12);
         due("30 far", x.copy(0, Integer.MAX_VALUE, 1, 0, 3), -12);
         due("30 far", x.copy(0, 1, 1, 1, Integer.MAX_VALUE), -12);
-        due("30 far", x.copy(0, 1, 1, 1, LEAST_INT), -12);
+        due("30 far", x.copy(0, 1, 1, 1, LEAST), -12);
         due("30 behind the end", x.copy(0, 6, 1, 0, 0), -12);
         due("30 none at the end", x.copy(0, 5, 1, 3, 0), 1);
         due("30 nothing came", x.get(1, 2, 0), 0);
@@ -932,67 +899,12 @@ public final class PromiseTest {
         x.set(0, 40);
         x.set(1, 20);
         x.turn(0, 3, 10);
-        due("33 by the calls", x.digest(), digestByCalls(x));
-        due("33 again", x.digest(), digestByCalls(x));
+        due("33 by the calls", x.digest(), DigestSum.of(x).longValue());
+        due("33 again", x.digest(), DigestSum.of(x).longValue());
         OneBook empty = new OneBook();
-        due("33 empty", empty.digest(), digestByCalls(empty));
+        due("33 empty", empty.digest(), DigestSum.of(empty).longValue());
         empty.lose(0);
         due("33 findings are not in it", empty.digest(), new OneBook().digest());
-    }
-
-    private static long hash = 0;
-
-    private static void mix(long v) {
-        hash = 31 * hash + v;
-    }
-
-    private static long digestByCalls(OneBook x) {
-        hash = 17;
-        for (int what = 0; what < 8; what++) {
-            mix(x.count(what));
-        }
-        mix(x.fault());
-        for (int c = 0; c < x.count(0); c++) {
-            digestChapter(x, c);
-        }
-        for (int what = 0; what < 3; what++) {
-            mix(x.best(0, 1, what));
-        }
-        for (int what = 0; what < 3; what++) {
-            mix(x.best(4, 5, what));
-        }
-        mix(x.rests(0, 1, -1));
-        mix(x.rests(0, 1, 0));
-        mix(x.gain(0, 1, 2, 1));
-        mix(x.gain(1, 0, 1, 2));
-        mix(x.pairs(63, -1));
-        for (int r = 0; r < 6; r++) {
-            mix(x.pairs(63, r));
-            for (int kind = 0; kind < 3; kind++) {
-                mix(x.paces(r, kind));
-            }
-        }
-        mix(x.unlike());
-        mix(x.done(7, 60, 0));
-        mix(x.done(7, 60, 1));
-        mix(x.mean(7, 0));
-        mix(x.mean(7, 1));
-        return hash;
-    }
-
-    private static void digestChapter(OneBook x, int c) {
-        for (int what = 0; what < 3; what++) {
-            mix(x.chapter(c, what));
-        }
-        for (int r = 0; r < 6; r++) {
-            mix(x.time(r, c));
-        }
-        for (int what = 0; what < 3; what++) {
-            mix(x.evening(3, c, what));
-        }
-        mix(x.waited(3, c, 1, 0));
-        mix(x.waited(3, c, 1, 1));
-        mix(x.how(0, 1, c));
     }
 
     private static void refusalsChangeNothing() {
