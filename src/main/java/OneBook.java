@@ -1147,7 +1147,7 @@ public final class OneBook {
         }
 
         void chanceBy(int readers, int minute) {
-            int last = Math.min(minute, LONGEST);
+            int last = Math.min(minute, longestOf(readers));
             long all = 1;
             for (int m = 0; m <= last; m++) {
                 ways[m] = 0;
@@ -1165,6 +1165,17 @@ public final class OneBook {
                 in += ways[m];
             }
             reduce(in, all);
+        }
+
+        /** No run of MOODS takes longer; a short book then costs few minutes, whatever minute is asked. */
+        private int longestOf(int readers) {
+            int sum = 0;
+            for (int c = 0; c < company.chapters(); c++) {
+                if (!company.isSkipped(c)) {
+                    sum += 2 * company.together(readers, c);
+                }
+            }
+            return Math.min(sum, LONGEST);
         }
 
         void meanMinutes(int readers) {
